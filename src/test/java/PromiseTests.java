@@ -3,7 +3,7 @@ import java.util.List;
 
 /** For each promise: ordinary inputs, the edges that the document names, and wrong inputs. */
 public final class PromiseTests {
-    private static final int[] WRONG_JOBS = {-1, 1, 2, 23, 24, Integer.MIN_VALUE, Integer.MAX_VALUE};
+    private static final int[] WRONG_JOBS = {-1, 1, 2, 3, 4, 6, 23, 24, Integer.MIN_VALUE, Integer.MAX_VALUE};
 
     private static int wrong = 0;
     private static String promise = "";
@@ -107,6 +107,10 @@ public final class PromiseTests {
         dueWords("what is refused changes nothing", x, 0, 1, 2, 3, 4, 5, 6, 7, 8, 9, 10);
         due("open", x.open(16, 4, 0), 0);
         due("full", x.count(0), 0);
+        for (int way = 0; way < 4; way++) {
+            due("no cells to be had", x.open(1, way, 0), SortKernel.NOROOM);
+            due("no job", x.count(4), 1);
+        }
     }
 
     private static void openWithoutNumbers() {
@@ -189,6 +193,7 @@ public final class PromiseTests {
         x.run(99);
         due("DONE", x.resize(0, 1), SortKernel.BADSTATE);
         resizeMovesOverOldCells();
+        resizeOfNone();
         resizeMerge();
         resizeQuick();
     }
@@ -205,6 +210,19 @@ public final class PromiseTests {
         due("resize", x.resize(1, 7), SortKernel.OK);
         due("behind the other one", x.job(1, 4), 7);
         dueWords("old ones stay", x, 0, 1, 2, 3, 2, 3, 4, 0, 1, 2, 3, 0, 0, 0, 0);
+    }
+
+    private static void resizeOfNone() {
+        SortKernel x = new SortKernel(20, 3, 1);
+        due("open", x.open(0, 0, 0), 0);
+        due("open", x.open(0, 2, 0), 1);
+        for (int job = 0; job < 2; job++) {
+            due("resize", x.resize(job, 21), SortKernel.NOROOM);
+            due("cells", x.job(job, 4), -1);
+            due("buffer", x.job(job, 5), -1);
+            due("largest", x.count(1), 20);
+            due("free blocks", x.count(2), 1);
+        }
     }
 
     private static void resizeMerge() {
@@ -318,6 +336,34 @@ public final class PromiseTests {
         steps(4, new int[] {5, 4, 3, 2, 1}, new int[][] {
             {5, 4, 1, 2, 3, 0, 0}, {5, 4, 1, 2, 3, 0, 0}, {1, 4, 5, 2, 3, 0, 0}, {2, 1, 3, 4, 5, 3, 4},
             {1, 2, 3, 5, 4, 3, 4}, {1, 2, 3, 4, 5, 3, 4}});
+        stepsOfQuickWithMoreInTheFirst();
+        stepsWithLikeNumbers();
+    }
+
+    private static void stepsOfQuickWithMoreInTheFirst() {
+        steps(4, new int[] {1, 2, 5, 3, 4}, new int[][] {
+            {1, 2, 4, 3, 5, 0, 0}, {1, 2, 4, 3, 5, 0, 0}, {1, 2, 4, 3, 5, 0, 0}, {1, 3, 4, 2, 5, 0, 3},
+            {1, 3, 4, 2, 5, 0, 3}, {1, 3, 4, 2, 5, 0, 3}, {1, 2, 3, 4, 5, 2, 3}, {1, 2, 3, 4, 5, 2, 3}});
+        steps(4, new int[] {1, 2, 4, 3, 5, 6}, new int[][] {
+            {1, 2, 6, 3, 5, 4, 0, 0}, {1, 2, 6, 3, 5, 4, 0, 0}, {1, 2, 6, 3, 5, 4, 0, 0},
+            {1, 2, 3, 6, 5, 4, 0, 0}, {1, 2, 3, 4, 6, 5, 0, 2}, {1, 3, 2, 4, 5, 6, 0, 2},
+            {1, 3, 2, 4, 5, 6, 0, 2}, {1, 2, 3, 4, 5, 6, 0, 2}});
+    }
+
+    /** Like numbers look the same in each place, but not in the count of comparisons. */
+    private static void stepsWithLikeNumbers() {
+        steps(0, new int[] {7, 7, 7}, new int[][] {{7, 7, 7}, {7, 7, 7}});
+        steps(1, new int[] {7, 7, 7, 7}, new int[][] {
+            {7, 7, 7, 7}, {7, 7, 7, 7}, {7, 7, 7, 7}, {7, 7, 7, 7}, {7, 7, 7, 7}, {7, 7, 7, 7}});
+        steps(1, new int[] {1, 2, 2, 0}, new int[][] {
+            {1, 2, 2, 0}, {1, 2, 2, 0}, {2, 1, 2, 0}, {0, 1, 2, 2},
+            {0, 1, 2, 2}, {0, 1, 2, 2}, {0, 1, 2, 2}});
+        steps(2, new int[] {1, 2, 2, 3}, new int[][] {
+            {1, 2, 2, 3, 1, 2, 0, 0}, {1, 2, 2, 3, 1, 2, 2, 3}, {1, 2, 2, 3, 1, 2, 2, 3},
+            {1, 2, 2, 3, 1, 2, 2, 3}});
+        steps(3, new int[] {7, 7, 7}, new int[][] {{7, 7, 7}, {7, 7, 7}});
+        steps(4, new int[] {7, 7, 7}, new int[][] {
+            {7, 7, 7, 0, 0}, {7, 7, 7, 1, 2}, {7, 7, 7, 1, 2}});
     }
 
     private static void steps(int way, int[] numbers, int[][] after) {
@@ -556,9 +602,23 @@ public final class PromiseTests {
         x.close(0);
         due("pack", x.pack(), 5);
         dueWords("down over their own", x, 0, 6, 7, 0, 0, 8);
+        packFromTheEnd();
         for (int way = 0; way < 5; way++) {
             packUnderWay(way);
         }
+    }
+
+    private static void packFromTheEnd() {
+        SortKernel x = new SortKernel(8, 3, 1);
+        due("open", x.open(3, 0, 0), 0);
+        opened(x, 0, 0, 1, 2, 3, 4, 5);
+        x.close(0);
+        due("pack", x.pack(), 5);
+        dueWords("from the last word on", x, 0, 1, 2, 3, 4, 5, 3, 4, 5);
+        x.close(1);
+        submitted(x, 2, 0, 4, 3, 2, 1);
+        x.run(2);
+        dueWords("to the last word", x, 4, 3, 4, 1, 2);
     }
 
     private static void packUnderWay(int way) {
