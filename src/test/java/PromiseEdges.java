@@ -864,6 +864,26 @@ public final class PromiseEdges {
         dueFree("full", x, 0, 0, 0);
     }
 
+    private static void packedJobsAreUsedOn() {
+        SortKernel x = new SortKernel(30, 6, 1);
+        x.open(5, INSERTION, 0);
+        opened(x, MERGE, 0, 1, 2, 3);
+        opened(x, INSERTION, 0, 8, 9);
+        x.close(0);
+        due("pack", x.pack(), 8);
+        due("put", x.put(1, 2, 33), OK);
+        dueWords("to the new place alone", x, 0, 1, 2, 33, 0, 0, 0, 8, 9, 0, 0, 0, 8, 9);
+        due("resize", x.resize(2, 3), OK);
+        dueBlocks("in its new place", x, 2, 6, -1);
+        dueCells("one more", x, 2, 8, 9, 0);
+        due("close", x.close(1), OK);
+        dueFree("its new words are given back", x, 27, 21, 2);
+        due("open", x.open(6, INSERTION, 0), 0);
+        dueBlocks("just there", x, 0, 0, -1);
+        due("close", x.close(2), OK);
+        dueFree("all behind", x, 24, 24, 1);
+    }
+
     // Promise 14: word
 
     private static void wordOfEachPlace() {
@@ -1094,6 +1114,7 @@ public final class PromiseEdges {
         sentence("12: is there no more (in each of 512 calls)", PromiseEdges::everyCallOfARunOpensOrCloses);
         sentence("13: how many WORDS were moved", PromiseEdges::packTellsHowManyWereMoved);
         sentence("13: PACKING", PromiseEdges::packMakesRoom);
+        sentence("13: PACKING (what is moved is used on)", PromiseEdges::packedJobsAreUsedOn);
         sentence("14: 0 if there is none such", PromiseEdges::wordOfEachPlace);
         sentence("15: of a JOB in each STATE", PromiseEdges::jobOfEachState);
         sentence("15: -1 for others", PromiseEdges::jobOfOtherQuestions);

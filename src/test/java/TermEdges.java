@@ -631,6 +631,20 @@ public final class TermEdges {
         dueWords("sorted", x, 0, upTo(100));
     }
 
+    private static void quickPutsPlacesOfItsCells() {
+        SortKernel x = new SortKernel(60, 3, 1);
+        x.open(10, INSERTION, 0);
+        submitted(x, QUICK, 0, 1, 2, 3, 4, 5);
+        x.run(4);
+        dueWords("3 to 4, not 13 to 14, nor the numbers there", x, 15, 3, 4, 0);
+        x.close(0);
+        x.pack();
+        dueWords("moved as they are", x, 5, 3, 4, 0);
+        x.run(2);
+        dueWords("3 to 4 is in hand", x, 0, 1, 2, 3, 4, 5);
+        due("DONE", x.state(1), DONE);
+    }
+
     private static void quickHasRoomForAllRanges() {
         SortKernel x = new SortKernel(1030, 3, 200);
         x.open(1000, QUICK, 0);
@@ -1154,6 +1168,7 @@ public final class TermEdges {
             TermEdges::quickTakesAnOnlyRangeRightBack);
         sentence("QUICK: else with the one put latest (it is there no more; WORDS stay)",
             TermEdges::quickTakesTheOnePutLatest);
+        sentence("QUICK: its first number, then its last one", TermEdges::quickPutsPlacesOfItsCells);
         sentence("QUICK: behind those that are there", TermEdges::quickHasRoomForAllRanges);
     }
 
